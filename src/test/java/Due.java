@@ -1,0 +1,71 @@
+/** Compares answers with the ones that are due, and reads and writes the texts of an object. */
+final class Due {
+    private String part = "";
+    private int wrong = 0;
+    private int asked = 0;
+
+    /** Names what is tested from here on. */
+    void part(String name) {
+        part = name;
+    }
+
+    void due(String call, long got, long want) {
+        asked++;
+        if (got != want) {
+            wrong++;
+            System.out.println(part + ": " + call + " answered " + got + ", due is " + want);
+        }
+    }
+
+    void due(String call, String got, String want) {
+        asked++;
+        if (!got.equals(want)) {
+            wrong++;
+            System.out.println(part + ": " + call + " answered \"" + got + "\", due is \"" + want + "\"");
+        }
+    }
+
+    int wrong() {
+        return wrong;
+    }
+
+    /** Ends the program, with exit code 1 if an answer was wrong. */
+    void end() {
+        System.out.println(wrong == 0 ? "all " + asked + " answers are as due" : wrong + " answers are not as due");
+        if (wrong != 0) {
+            System.exit(1);
+        }
+    }
+
+    /** Up to 8 characters as the number that put takes. */
+    static long packed(String text) {
+        long number = 0;
+        for (int i = 0; i < text.length(); i++) {
+            number = number << 8 | text.charAt(i);
+        }
+        return number;
+    }
+
+    /** Puts a text of any length, and answers the length of the pad that the last call told. */
+    static int put(ReceiptRolls x, String text) {
+        int length = 0;
+        for (int i = 0; i < text.length(); i += 8) {
+            length = x.put(packed(text.substring(i, Math.min(i + 8, text.length()))));
+        }
+        return length;
+    }
+
+    static int ring(ReceiptRolls x, int till, String name, int many, int price, int tax) {
+        put(x, name);
+        return x.ring(till, many, price, tax);
+    }
+
+    /** The text of a line, all its places; "none" if there is no such line. */
+    static String line(ReceiptRolls x, int receipt, int line) {
+        StringBuilder text = new StringBuilder();
+        for (int column = 0; x.sign(receipt, line, column) >= 0; column++) {
+            text.append((char) x.sign(receipt, line, column));
+        }
+        return x.sign(receipt, line, 0) == ReceiptRolls.NO_SUCH ? "none" : text.toString();
+    }
+}
