@@ -24,8 +24,8 @@ public final class ReceiptRolls {
 
     private final State now;
     private final History history;
+    /** Null where nothing was saved. */
     private final State[] slots;
-    private final boolean[] saved;
     private final StringBuilder pad;
     private final Sheet sheet;
 
@@ -33,10 +33,6 @@ public final class ReceiptRolls {
         now = new State();
         history = new History();
         slots = new State[SLOTS];
-        for (int i = 0; i < slots.length; i++) {
-            slots[i] = new State();
-        }
-        saved = new boolean[SLOTS];
         pad = new StringBuilder();
         sheet = new Sheet();
     }
@@ -384,19 +380,21 @@ public final class ReceiptRolls {
     }
 
     public int save(int slot) {
-        if (slot < 0 || slot >= slots.length || slot >= saved.length || slots[slot] == null) {
+        if (slot < 0 || slot >= slots.length) {
             return BAD_VALUE;
         }
+        if (slots[slot] == null) {
+            slots[slot] = new State();
+        }
         slots[slot].copyFrom(now);
-        saved[slot] = true;
         return now.closed;
     }
 
     public int restore(int slot) {
-        if (slot < 0 || slot >= slots.length || slot >= saved.length || slots[slot] == null) {
+        if (slot < 0 || slot >= slots.length) {
             return BAD_VALUE;
         }
-        if (!saved[slot]) {
+        if (slots[slot] == null) {
             return NOT_POSSIBLE;
         }
         history.remember(now);

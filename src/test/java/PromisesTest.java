@@ -40,6 +40,7 @@ public final class PromisesTest {
         undoOfEachChange();
         save();
         restore();
+        restoreOfReceipts();
         DUE.end();
     }
 
@@ -203,9 +204,11 @@ public final class PromisesTest {
         Due.ring(x, 0, "tea", 1, 1, 0);
         x.strike(0, 0);
         due("struck items are items", x.close(0, 0), 2);
+        due("none of the next ones is struck", x.ofTill(0, 1), 0);
         for (int i = 3; i <= 10; i++) {
             due("close", closeOne(x, i % 3, 1), i);
         }
+        dueLine(x, 10, 0, "#10                     ");
         due("without items first", x.close(0, 0), -5);
         due("too many", closeOne(x, 0, 0), -4);
         due("bad value first", x.close(0, 4), -2);
@@ -247,6 +250,11 @@ public final class PromisesTest {
         due("3 is forgotten", x.ofReceipt(3, 0), -1);
         due("5 is forgotten", x.ofReceipt(5, 0), -1);
         due("6 is known", x.ofReceipt(6, 0), 2);
+        x.pass(2);
+        due("18 are done", x.count(3), 18);
+        due("1 is forgotten", x.ofReceipt(1, 0), -1);
+        due("10 is forgotten", x.between(1, 10, 1), 0);
+        due("11 is known", x.ofReceipt(11, 0), 2);
     }
 
     private static void hurry() {
@@ -461,6 +469,14 @@ public final class PromisesTest {
         }
         due("the greatest total", x.ofTill(0, 2), 11878812);
         due("the greatest tax", x.ofTill(0, 5), 1896617);
+        // The half of a cent lies between 84 and 85 cents.
+        Due.ring(x, 1, "a", 84, 1, 1);
+        due("5.495 cents of tax", x.ofTill(1, 4), 5);
+        x.strike(1, 0);
+        Due.ring(x, 1, "a", 85, 1, 1);
+        due("5.561 cents of tax", x.ofTill(1, 4), 6);
+        Due.ring(x, 2, "a", 1, 1, 1);
+        due("a line for no cent of tax", x.ofTill(2, 3), 4);
         dueLine(x, 0, 13, "sum            118788.12");
         dueLine(x, 0, 14, "tax 19          18966.17");
     }
@@ -520,6 +536,9 @@ public final class PromisesTest {
             dueLine(x, -1, line, lines[line]);
         }
         closeOne(x, 0, 0);
+        dueLine(x, 1, 0, "#1                      ");
+        dueLine(x, 1, 1, "a                   1.00");
+        dueLine(x, 1, 2, "sum                 1.00");
         dueLine(x, -1, 0, "#2                      ");
         x.close(1, 0);
         x.set(ReceiptRolls.WIDTH, 16);
@@ -562,6 +581,14 @@ public final class PromisesTest {
         dueLine(x, 0, 14, "void 4  -9899.01");
         dueLine(x, 0, 15, "sum     98990.10");
         dueLine(x, 0, 16, "tax 19  15805.14");
+        Due.ring(x, 1, "a", 10, 100, 0);
+        Due.ring(x, 1, "b", 99, 1, 0);
+        Due.ring(x, 1, "c", 10, 1000, 0);
+        dueLine(x, -1, 1, "10x a      10.00");
+        dueLine(x, -1, 2, "99x b       0.99");
+        dueLine(x, -1, 3, "10x c     100.00");
+        x.strike(0, 10);
+        dueLine(x, 0, 15, "void 10 -9899.01");
     }
 
     private static void wordsInLines() {
@@ -577,6 +604,8 @@ public final class PromisesTest {
             {"abcdefghijklmnop_q", "abcdefgh        ", "ijklmnop        ", "q           1.00"},
             {"abcdefgh_ijklmnopq", "abcdefgh        ", "ijklmnop        ", "q           1.00"},
             {"a_b_c_d_e", "a b c d         ", "e           1.00"},
+            {"a_abcdefgh", "a               ", "abcdefgh    1.00"},
+            {"a_abcdefghi", "a               ", "abcdefgh        ", "i           1.00"},
         };
         int line = 1;
         for (int i = 0; i < items.length; i++) {
@@ -587,7 +616,7 @@ public final class PromisesTest {
                 line++;
             }
         }
-        dueLine(x, 0, line, "sum         8.00");
+        dueLine(x, 0, line, "sum        10.00");
         Due.ring(x, 1, "abcde", 2, 50, 0);
         Due.ring(x, 1, "abcdef", 2, 50, 0);
         Due.ring(x, 1, "abcdefghi", 12, 50, 0);
@@ -772,6 +801,10 @@ public final class PromisesTest {
         due("a tick later", x.outIn(), 1);
         x.pass(1);
         due("now", x.outIn(), 0);
+        x.undo();
+        x.set(ReceiptRolls.SPEED, 1);
+        x.pass(1);
+        due("one line", x.outIn(), 1);
         x.set(ReceiptRolls.ROLL, 5);
         x.newRoll();
         due("on the new roll", x.outIn(), -6);
@@ -982,6 +1015,45 @@ public final class PromisesTest {
         x.undo();
         due("undo leaves the slots", x.restore(0), 2);
         due("restore(1)", x.restore(1), 2);
+    }
+
+    /** The places of the ledger are taken by other receipts before the old ones come back. */
+    private static void restoreOfReceipts() {
+        ReceiptRolls x = new ReceiptRolls();
+        Due.ring(x, 1, THIRTY, 1, 300, 2);
+        x.strike(1, 0);
+        x.close(1, 2);
+        x.pass(3);
+        x.set(ReceiptRolls.WIDTH, 30);
+        Due.ring(x, 2, "b", 1, 200, 0);
+        x.close(2, 3);
+        x.pass(1);
+        int[] first = {2, 1, 2, 1, 1, 0, 5, 5, 24, 2};
+        int[] second = {1, 2, 3, 1, 0, 200, 3, 2, 30, -6};
+        x.save(0);
+        x.set(ReceiptRolls.WIDTH, 16);
+        for (int i = 3; i <= 22; i++) {
+            closeOne(x, 0, 1);
+            x.pass(4);
+        }
+        x.save(1);
+        due("1 is forgotten", x.ofReceipt(1, 0), -1);
+        due("2 is forgotten", x.ofReceipt(2, 0), -1);
+        x.restore(0);
+        for (int what = 0; what < 10; what++) {
+            due("ofReceipt(1, " + what + ")", x.ofReceipt(1, what), first[what]);
+            due("ofReceipt(2, " + what + ")", x.ofReceipt(2, what), second[what]);
+        }
+        dueLine(x, 1, 2, "qrstuvwxyzabcd      3.00");
+        dueLine(x, 2, 1, "b                         2.00");
+        x.set(ReceiptRolls.SPEED, 9);
+        for (int i = 3; i <= 9; i++) {
+            closeOne(x, 0, 1);
+        }
+        x.pass(3);
+        due("9 are done", x.count(3), 9);
+        due("1 was the first", x.ofReceipt(1, 0), -1);
+        due("2 was the next", x.ofReceipt(2, 0), 2);
     }
 
     private static void restore() {
