@@ -833,8 +833,13 @@ public final class PromisesTest {
         due("bad value", x.bestWidth(0, 2), -2);
         due("no till", x.bestWidth(3, 2), -1);
         due("no till", x.bestWidth(-1, 0), -1);
-        Due.ring(x, 2, "abcdefghijklmnopqrstuvwxyz_abc", 1, 1, 2);
-        due("the widest", x.bestWidth(2, 0), 38);
+        x = new ReceiptRolls();
+        Due.ring(x, 0, "abcdefghijklmnopqrst_abcdefg", 99, 1, 0);
+        due("the widest one", x.bestWidth(0, 0), 40);
+        due("the widest one", x.bestWidth(0, 1), 3);
+        Due.ring(x, 1, "abcdefghijklmnopqrst_abcdefgh", 99, 1, 0);
+        due("too wide for one line", x.bestWidth(1, 0), 32);
+        due("too wide for one line", x.bestWidth(1, 1), 4);
     }
 
     private static void ifStruck() {
