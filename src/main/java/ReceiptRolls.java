@@ -22,6 +22,9 @@ public final class ReceiptRolls {
 
     private static final int WAITS = 0, PRINTED = 1, DONE = 2;
 
+    /** Stands for the wanted line where lines are only counted. */
+    private static final int NO_LINE = -1;
+
     private final State now;
     private final History history;
     /** Null where nothing was saved. */
@@ -102,7 +105,7 @@ public final class ReceiptRolls {
             return TOO_MANY;
         }
         history.remember(now);
-        layLines(receipt, -1);
+        layLines(receipt, NO_LINE);
         now.closed++;
         place.copyFrom(receipt);
         place.closeAs(now.closed, till, priority, sheet.width, sheet.line);
@@ -196,7 +199,7 @@ public final class ReceiptRolls {
             case 0: return receipt.items;
             case 1: return receipt.itemsStruck();
             case 2: return receipt.total();
-            case 3: return layLines(receipt, -1);
+            case 3: return layLines(receipt, NO_LINE);
             case 4: return receipt.taxOf(1);
             case 5: return receipt.taxOf(2);
             default: return BAD_VALUE;
@@ -324,9 +327,9 @@ public final class ReceiptRolls {
             return BAD_VALUE;
         }
         int bestWidth = LEAST_WIDTH;
-        int fewest = Integer.MAX_VALUE;
-        for (int width = LEAST_WIDTH; width <= MOST_WIDTH; width++) {
-            int lines = sheet.lay(receipt, now.closed + 1, width, -1);
+        int fewest = sheet.lay(receipt, now.closed + 1, LEAST_WIDTH, NO_LINE);
+        for (int width = LEAST_WIDTH + 1; width <= MOST_WIDTH; width++) {
+            int lines = sheet.lay(receipt, now.closed + 1, width, NO_LINE);
             if (lines < fewest) {
                 fewest = lines;
                 bestWidth = width;
@@ -647,7 +650,7 @@ public final class ReceiptRolls {
         }
 
         int linesOfItem(Item item, int newWidth) {
-            begin(newWidth, -1);
+            begin(newWidth, NO_LINE);
             layItem(item);
             return line;
         }

@@ -47,7 +47,7 @@ final class Due {
     }
 
     /** Puts a text of any length, and answers the length of the pad that the last call told. */
-    static int put(ReceiptRolls x, String text) {
+    static int put(Rolls x, String text) {
         int length = 0;
         for (int i = 0; i < text.length(); i += 8) {
             length = x.put(packed(text.substring(i, Math.min(i + 8, text.length()))));
@@ -55,17 +55,22 @@ final class Due {
         return length;
     }
 
-    static int ring(ReceiptRolls x, int till, String name, int many, int price, int tax) {
+    static int ring(Rolls x, int till, String name, int many, int price, int tax) {
         put(x, name);
         return x.ring(till, many, price, tax);
     }
 
     /** The text of a line, all its places; "none" if there is no such line. */
-    static String line(ReceiptRolls x, int receipt, int line) {
+    static String line(Rolls x, int receipt, int line) {
         StringBuilder text = new StringBuilder();
-        for (int column = 0; x.sign(receipt, line, column) >= 0; column++) {
-            text.append((char) x.sign(receipt, line, column));
+        int sign = x.sign(receipt, line, 0);
+        if (sign == ReceiptRolls.NO_SUCH) {
+            return "none";
         }
-        return x.sign(receipt, line, 0) == ReceiptRolls.NO_SUCH ? "none" : text.toString();
+        for (int column = 1; sign >= 0; column++) {
+            text.append((char) sign);
+            sign = x.sign(receipt, line, column);
+        }
+        return text.toString();
     }
 }

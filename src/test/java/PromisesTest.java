@@ -48,12 +48,12 @@ public final class PromisesTest {
         DUE.due(call, got, want);
     }
 
-    private static void dueLine(ReceiptRolls x, int receipt, int line, String want) {
+    private static void dueLine(Rolls x, int receipt, int line, String want) {
         DUE.due("line " + line + " of " + receipt, Due.line(x, receipt, line), want);
     }
 
     /** Rings an item of 1.00 without tax and closes its receipt: 3 lines. */
-    private static int closeOne(ReceiptRolls x, int till, int priority) {
+    private static int closeOne(Rolls x, int till, int priority) {
         Due.ring(x, till, "a", 1, 100, 0);
         return x.close(till, priority);
     }
@@ -73,7 +73,7 @@ public final class PromisesTest {
 
     private static void newObject() {
         DUE.part("promise 1");
-        ReceiptRolls x = new ReceiptRolls();
+        Rolls x = new Rolls();
         int[] counts = {0, 0, 0, 0, 0, 24, 40, 2, 0, 0};
         for (int what = 0; what < counts.length; what++) {
             due("count(" + what + ")", x.count(what), counts[what]);
@@ -103,7 +103,7 @@ public final class PromisesTest {
 
     private static void set() {
         DUE.part("promise 2");
-        ReceiptRolls x = new ReceiptRolls();
+        Rolls x = new Rolls();
         int[] least = {16, 5, 1};
         int[] most = {40, 200, 9};
         int[] first = {24, 40, 2};
@@ -128,7 +128,7 @@ public final class PromisesTest {
 
     private static void ring() {
         DUE.part("promise 3");
-        ReceiptRolls x = new ReceiptRolls();
+        Rolls x = new Rolls();
         due("ring without a name", x.ring(0, 1, 1, 0), -3);
         due("ring nowhere without a name", x.ring(3, 0, 0, 3), -1);
         due("ring without a name, bad values", x.ring(0, 0, 0, 3), -3);
@@ -166,7 +166,7 @@ public final class PromisesTest {
 
     private static void strike() {
         DUE.part("promise 4");
-        ReceiptRolls x = new ReceiptRolls();
+        Rolls x = new Rolls();
         Due.ring(x, 1, "tea", 3, 250, 1);
         Due.ring(x, 1, "cake", 2, 99, 2);
         due("no till", x.strike(3, 0), -1);
@@ -190,7 +190,7 @@ public final class PromisesTest {
 
     private static void close() {
         DUE.part("promise 5");
-        ReceiptRolls x = new ReceiptRolls();
+        Rolls x = new Rolls();
         due("no till", x.close(3, 0), -1);
         due("no till", x.close(-1, 9), -1);
         due("without items", x.close(0, 0), -5);
@@ -223,7 +223,7 @@ public final class PromisesTest {
 
     private static void ledger() {
         DUE.part("terms: ledger");
-        ReceiptRolls x = new ReceiptRolls();
+        Rolls x = new Rolls();
         x.set(ReceiptRolls.SPEED, 9);
         x.set(ReceiptRolls.ROLL, 200);
         x.newRoll();
@@ -259,7 +259,7 @@ public final class PromisesTest {
 
     private static void hurry() {
         DUE.part("promise 6");
-        ReceiptRolls x = new ReceiptRolls();
+        Rolls x = new Rolls();
         due("unknown", x.hurry(1, 0), -1);
         due("unknown", x.hurry(0, 9), -1);
         closeOne(x, 0, 0);
@@ -284,7 +284,7 @@ public final class PromisesTest {
 
     private static void newRoll() {
         DUE.part("promise 7");
-        ReceiptRolls x = new ReceiptRolls();
+        Rolls x = new Rolls();
         closeOne(x, 0, 0);
         x.pass(1);
         x.set(ReceiptRolls.ROLL, 7);
@@ -299,7 +299,7 @@ public final class PromisesTest {
 
     private static void tear() {
         DUE.part("promise 8");
-        ReceiptRolls x = new ReceiptRolls();
+        Rolls x = new Rolls();
         due("bad value", x.tear(0), -2);
         due("bad value", x.tear(100), -2);
         due("bad value", x.tear(LEAST), -2);
@@ -346,7 +346,7 @@ public final class PromisesTest {
 
     private static void pass() {
         DUE.part("promise 9");
-        ReceiptRolls x = new ReceiptRolls();
+        Rolls x = new Rolls();
         due("bad value", x.pass(0), -2);
         due("bad value", x.pass(100), -2);
         due("bad value", x.pass(-1), -2);
@@ -386,7 +386,7 @@ public final class PromisesTest {
         x.newRoll();
         due("the rest", x.pass(1), 3);
 
-        x = new ReceiptRolls();
+        x = new Rolls();
         x.set(ReceiptRolls.ROLL, 6);
         x.newRoll();
         closeOne(x, 0, 0);
@@ -398,7 +398,7 @@ public final class PromisesTest {
         due("it is taken on an empty roll", x.ofReceipt(3, 0), 1);
         due("printer(0)", x.printer(0), 3);
 
-        x = new ReceiptRolls();
+        x = new Rolls();
         for (int i = 0; i < 101; i++) {
             due("pass(99)", x.pass(99), 0);
         }
@@ -415,7 +415,7 @@ public final class PromisesTest {
 
     private static void item() {
         DUE.part("promise 10");
-        ReceiptRolls x = new ReceiptRolls();
+        Rolls x = new Rolls();
         Due.ring(x, 2, "red_wine", 3, 1299, 2);
         Due.ring(x, 2, THIRTY, 1, 5, 0);
         int[] first = {3, 1299, 2, 3897, 0, 1, 8};
@@ -443,7 +443,7 @@ public final class PromisesTest {
 
     private static void ofTill() {
         DUE.part("promise 11");
-        ReceiptRolls x = new ReceiptRolls();
+        Rolls x = new Rolls();
         Due.ring(x, 1, "a", 1, 8, 1);
         Due.ring(x, 1, "b", 1, 7, 1);
         Due.ring(x, 1, "c", 1, 119, 2);
@@ -463,7 +463,7 @@ public final class PromisesTest {
         due("bad value", x.ofTill(1, 6), -2);
         due("no till", x.ofTill(3, 9), -1);
         due("no till", x.ofTill(-1, 0), -1);
-        x = new ReceiptRolls();
+        x = new Rolls();
         for (int i = 0; i < 12; i++) {
             Due.ring(x, 0, "a", 99, 9999, 2);
         }
@@ -483,7 +483,7 @@ public final class PromisesTest {
 
     private static void ofReceipt() {
         DUE.part("promise 12");
-        ReceiptRolls x = new ReceiptRolls();
+        Rolls x = new Rolls();
         x.set(ReceiptRolls.WIDTH, 20);
         Due.ring(x, 2, "tea", 2, 300, 1);
         Due.ring(x, 2, "cake", 1, 450, 2);
@@ -508,7 +508,7 @@ public final class PromisesTest {
         due("unknown", x.ofReceipt(2, 10), -1);
         due("unknown", x.ofReceipt(0, 0), -1);
         due("unknown", x.ofReceipt(LEAST, 0), -1);
-        x = new ReceiptRolls();
+        x = new Rolls();
         x.set(ReceiptRolls.SPEED, 9);
         closeOne(x, 0, 0);
         x.pass(1);
@@ -517,7 +517,7 @@ public final class PromisesTest {
 
     private static void sign() {
         DUE.part("promise 13");
-        ReceiptRolls x = new ReceiptRolls();
+        Rolls x = new Rolls();
         Due.ring(x, 1, "red_wine", 3, 1299, 2);
         Due.ring(x, 1, "tea", 1, 5, 1);
         x.strike(1, 0);
@@ -569,7 +569,7 @@ public final class PromisesTest {
     }
 
     private static void voids() {
-        ReceiptRolls x = new ReceiptRolls();
+        Rolls x = new Rolls();
         x.set(ReceiptRolls.WIDTH, 16);
         for (int i = 0; i < 12; i++) {
             Due.ring(x, 0, "a", 99, 9999, 2);
@@ -593,7 +593,7 @@ public final class PromisesTest {
 
     private static void wordsInLines() {
         DUE.part("terms: lines");
-        ReceiptRolls x = new ReceiptRolls();
+        Rolls x = new Rolls();
         x.set(ReceiptRolls.WIDTH, 16);
         String[][] items = {
             {"abc_defg", "abc defg    1.00"},
@@ -630,7 +630,7 @@ public final class PromisesTest {
 
     private static void waiting() {
         DUE.part("promise 14");
-        ReceiptRolls x = new ReceiptRolls();
+        Rolls x = new Rolls();
         int[] priorities = {1, 3, 0, 3, 1};
         int[] order = {2, 4, 1, 5, 3};
         for (int priority : priorities) {
@@ -652,7 +652,7 @@ public final class PromisesTest {
 
     private static void printer() {
         DUE.part("promise 15");
-        ReceiptRolls x = new ReceiptRolls();
+        Rolls x = new Rolls();
         closeOne(x, 0, 0);
         x.pass(1);
         x.tear(1);
@@ -674,7 +674,7 @@ public final class PromisesTest {
 
     private static void count() {
         DUE.part("promise 16");
-        ReceiptRolls x = new ReceiptRolls();
+        Rolls x = new Rolls();
         closeOne(x, 0, 0);
         closeOne(x, 0, 0);
         closeOne(x, 0, 0);
@@ -700,7 +700,7 @@ public final class PromisesTest {
 
     private static void between() {
         DUE.part("promise 17");
-        ReceiptRolls x = new ReceiptRolls();
+        Rolls x = new Rolls();
         int[] prices = {300, 500, 200, 400};
         for (int price : prices) {
             Due.ring(x, 0, "tea", 1, price, 0);
@@ -728,7 +728,7 @@ public final class PromisesTest {
 
     private static void doneIn() {
         DUE.part("promise 18");
-        ReceiptRolls x = new ReceiptRolls();
+        Rolls x = new Rolls();
         due("unknown", x.doneIn(1), -1);
         due("unknown", x.doneIn(0), -1);
         due("unknown", x.doneIn(LEAST), -1);
@@ -755,7 +755,7 @@ public final class PromisesTest {
         due("the roll is out", x.doneIn(4), -6);
         x.newRoll();
         due("doneIn(4)", x.doneIn(4), 2);
-        x = new ReceiptRolls();
+        x = new Rolls();
         for (int i = 0; i < 101; i++) {
             x.pass(99);
         }
@@ -766,7 +766,7 @@ public final class PromisesTest {
 
     private static void linesLeft() {
         DUE.part("promise 19");
-        ReceiptRolls x = new ReceiptRolls();
+        Rolls x = new Rolls();
         Due.ring(x, 0, "tea", 1, 100, 1);
         due("open ones do not count", x.linesLeft(), 0);
         x.close(0, 0);
@@ -784,7 +784,7 @@ public final class PromisesTest {
 
     private static void outIn() {
         DUE.part("promise 20");
-        ReceiptRolls x = new ReceiptRolls();
+        Rolls x = new Rolls();
         x.set(ReceiptRolls.ROLL, 6);
         x.newRoll();
         closeOne(x, 0, 0);
@@ -812,7 +812,7 @@ public final class PromisesTest {
 
     private static void bestWidth() {
         DUE.part("promise 21");
-        ReceiptRolls x = new ReceiptRolls();
+        Rolls x = new Rolls();
         due("without items", x.bestWidth(0, 0), 16);
         due("without items", x.bestWidth(0, 1), 2);
         Due.ring(x, 0, THIRTY, 1, 1, 0);
@@ -833,7 +833,7 @@ public final class PromisesTest {
         due("bad value", x.bestWidth(0, 2), -2);
         due("no till", x.bestWidth(3, 2), -1);
         due("no till", x.bestWidth(-1, 0), -1);
-        x = new ReceiptRolls();
+        x = new Rolls();
         Due.ring(x, 0, "abcdefghijklmnopqrst_abcdefg", 99, 1, 0);
         due("the widest one", x.bestWidth(0, 0), 40);
         due("the widest one", x.bestWidth(0, 1), 3);
@@ -844,7 +844,7 @@ public final class PromisesTest {
 
     private static void ifStruck() {
         DUE.part("promise 22");
-        ReceiptRolls x = new ReceiptRolls();
+        Rolls x = new Rolls();
         Due.ring(x, 0, "tea", 2, 300, 1);
         Due.ring(x, 0, "cake", 1, 450, 2);
         due("the first", x.ifStruck(0, 0), 450);
@@ -863,7 +863,7 @@ public final class PromisesTest {
 
     private static void put() {
         DUE.part("promise 23");
-        ReceiptRolls x = new ReceiptRolls();
+        Rolls x = new Rolls();
         due("no character", x.put(0), -2);
         due("below 33", x.put(32), -2);
         due("33", x.put(33), 1);
@@ -896,7 +896,7 @@ public final class PromisesTest {
 
     private static void wipe() {
         DUE.part("promise 24");
-        ReceiptRolls x = new ReceiptRolls();
+        Rolls x = new Rolls();
         due("empty", x.wipe(), 0);
         Due.put(x, "abcdefghijk");
         due("wipe()", x.wipe(), 11);
@@ -918,7 +918,7 @@ public final class PromisesTest {
             {THIRTY.substring(0, 28) + "_a", -6}, {THIRTY.substring(0, 28) + "_ab", 30}, {THIRTY + "A", 30},
             {THIRTY.substring(0, 28) + "__", 29}, {THIRTY + THIRTY + "abcdefghijklmnopqrst", 30}};
         for (Object[] pad : pads) {
-            ReceiptRolls x = new ReceiptRolls();
+            Rolls x = new Rolls();
             Due.put(x, (String) pad[0]);
             int want = (Integer) pad[1];
             due("fault of " + pad[0], x.fault(), want);
@@ -929,7 +929,7 @@ public final class PromisesTest {
 
     private static void undo() {
         DUE.part("promise 26");
-        ReceiptRolls x = new ReceiptRolls();
+        Rolls x = new Rolls();
         due("nothing to undo", x.undo(), -5);
         for (int i = 1; i <= 8; i++) {
             x.set(ReceiptRolls.WIDTH, 20 + i);
@@ -955,7 +955,7 @@ public final class PromisesTest {
     }
 
     private static void undoOfEachChange() {
-        ReceiptRolls x = new ReceiptRolls();
+        Rolls x = new Rolls();
         Due.ring(x, 0, "tea", 1, 100, 1);
         Due.ring(x, 0, "cake", 2, 200, 2);
         due("strike", x.strike(0, 0), 100);
@@ -998,7 +998,7 @@ public final class PromisesTest {
 
     private static void save() {
         DUE.part("promise 27");
-        ReceiptRolls x = new ReceiptRolls();
+        Rolls x = new Rolls();
         due("no slot", x.save(-1), -2);
         due("no slot", x.save(2), -2);
         due("no slot", x.save(LEAST), -2);
@@ -1024,7 +1024,7 @@ public final class PromisesTest {
 
     /** The places of the ledger are taken by other receipts before the old ones come back. */
     private static void restoreOfReceipts() {
-        ReceiptRolls x = new ReceiptRolls();
+        Rolls x = new Rolls();
         Due.ring(x, 1, THIRTY, 1, 300, 2);
         x.strike(1, 0);
         x.close(1, 2);
@@ -1063,7 +1063,7 @@ public final class PromisesTest {
 
     private static void restore() {
         DUE.part("promise 28");
-        ReceiptRolls x = new ReceiptRolls();
+        Rolls x = new Rolls();
         due("no slot", x.restore(-1), -2);
         due("no slot", x.restore(2), -2);
         due("no slot", x.restore(MOST), -2);

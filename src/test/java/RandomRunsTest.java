@@ -3,12 +3,13 @@ import java.util.Random;
 /** Long runs of calls, ordinary and wrong ones, whose answers are compared with those of PlainRolls; always the same runs. */
 public final class RandomRunsTest {
     private static final int RUNS = 200;
-    private static final int CALLS = 512;
+    /** The most calls that a step makes. */
+    private static final int STEP = 8;
     private static final int[] ODD = {Integer.MIN_VALUE, Integer.MAX_VALUE, -7, -1, 1000, 1 << 16};
 
     private final Due due = new Due();
     private final Random random;
-    private final ReceiptRolls x = new ReceiptRolls();
+    private final Rolls x = new Rolls();
     private final PlainRolls plain = new PlainRolls();
     /** How often the run rings, closes and lets ticks pass: each run has its own mixture. */
     private final int busy;
@@ -33,7 +34,7 @@ public final class RandomRunsTest {
     }
 
     private void run() {
-        for (int call = 0; call < CALLS && due.wrong() == 0; call++) {
+        while (x.used() <= Rolls.MOST_CALLS - STEP && due.wrong() == 0) {
             if (random.nextInt(100) < busy) {
                 change();
             } else {

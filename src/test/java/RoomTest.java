@@ -34,24 +34,24 @@ public final class RoomTest {
         }
     }
 
-    /** A run in which one kind of calls, besides those that it needs, is made over and over. */
+    /** A run of 512 calls, in which one kind of calls, besides those that it needs, is made over and over. */
     private static long run(int kind) {
         long before = bytes();
         ReceiptRolls x = new ReceiptRolls();
         x.save(0);
         for (int i = 0; i < 12; i++) {
-            Due.put(x, "abcdefghijklmnopqrstuvwxyz_abc");
+            x.put(Due.packed("abcdefgh"));
+            x.put(Due.packed("ijklmnop"));
+            x.put(Due.packed("qrstuvwx"));
+            x.put(Due.packed("yz_abc"));
             x.ring(0, 99, 9999, 2);
         }
-        while (x.count(9) < 6) {
-            x.newRoll();
-        }
-        for (int i = 0; i < 512; i++) {
-            if (kind == 1) {
-                x.put('a');
-                x.undo();
+        for (int used = 61; used < Rolls.MOST_CALLS; used++) {
+            if (kind == 1 && used % 3 != 0) {
+                call(x, used % 3 == 1 ? 0 : 6);
+            } else {
+                call(x, kind < 12 ? kind : used % 12);
             }
-            call(x, kind < 12 ? kind : i % 12);
         }
         return bytes() - before;
     }
