@@ -77,7 +77,7 @@ public final class ReceiptRolls {
     public int strike(int till, int item) {
         Receipt receipt = now.openAt(till);
         Item struck = receipt == null ? null : receipt.itemAt(item);
-        if (struck == null) {
+        if (receipt == null || struck == null) {
             return NO_SUCH;
         }
         if (receipt.isStruck(item)) {
@@ -175,7 +175,7 @@ public final class ReceiptRolls {
     public int item(int till, int item, int what) {
         Receipt receipt = now.openAt(till);
         Item found = receipt == null ? null : receipt.itemAt(item);
-        if (found == null) {
+        if (receipt == null || found == null) {
             return NO_SUCH;
         }
         switch (what) {
